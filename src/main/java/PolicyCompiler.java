@@ -238,18 +238,26 @@ public final class PolicyCompiler {
     }
 
     public int match(int slot, int row, int field) {
-        if (!isRow(slot, row) || field < 0 || field >= FIELDS) {
+        if (!isSlot(slot) || field < 0 || field >= FIELDS) {
             return fail(OUT_OF_RANGE);
         }
-        return entryOf(slots[slot].table().demandsOf(row), field);
+        Table table = slots[slot].upToDate(evaluator).table();
+        if (!table.hasRow(row)) {
+            return fail(OUT_OF_RANGE);
+        }
+        return entryOf(table.demandsOf(row), field);
     }
 
     public int action(int slot, int row, int index) {
-        if (!isRow(slot, row) || index < -1) {
+        if (!isSlot(slot) || index < -1) {
+            return fail(OUT_OF_RANGE);
+        }
+        Table table = slots[slot].upToDate(evaluator).table();
+        if (!table.hasRow(row)) {
             return fail(OUT_OF_RANGE);
         }
         Diagram diagram = slots[slot].diagram();
-        int leaf = slots[slot].table().leafOf(row);
+        int leaf = table.leafOf(row);
         return index == -1 ? diagram.actionTotal(leaf) : diagram.actionAt(leaf, index);
     }
 
@@ -261,10 +269,13 @@ public final class PolicyCompiler {
     }
 
     public int hits(int slot, int row) {
-        if (!isRow(slot, row)) {
+        if (!isSlot(slot)) {
             return fail(OUT_OF_RANGE);
         }
-        Table table = slots[slot].table();
+        Table table = slots[slot].upToDate(evaluator).table();
+        if (!table.hasRow(row)) {
+            return fail(OUT_OF_RANGE);
+        }
         int packets = 0;
         for (int p = 0; p < PACKETS; p++) {
             if (table.firstRowFor(p) == row) {
@@ -383,10 +394,6 @@ public final class PolicyCompiler {
         return packet >= 0 && packet < PACKETS;
     }
 
-    private boolean isRow(int slot, int row) {
-        return isSlot(slot) && row >= 0 && row < slots[slot].upToDate(evaluator).table().rowTotal();
-    }
-
     // ---- packets, sets of packets, and three entries written as one number
 
     private static int shiftOf(int field) {
@@ -450,19 +457,15 @@ public final class PolicyCompiler {
 
         void add(int kind, int field, int value) {
             if (count < MAX_SIZE) {
+                int operands = operandsOf(kind);
+                int begin = count;
+                for (int k = 0; k < operands && begin > 0; k++) {
+                    begin = begins[begin - 1];
+                }
                 nodes[count] = (kind << 4) | (field << 2) | value;
-                begins[count] = beginOf(kind);
+                begins[count] = begin;
             }
             count++;
-        }
-
-        private int beginOf(int kind) {
-            int operands = operandsOf(kind);
-            int begin = count;
-            for (int k = 0; k < operands && begin > 0; k++) {
-                begin = begins[begin - 1];
-            }
-            return begin;
         }
 
         static int operandsOf(int kind) {
@@ -577,29 +580,25 @@ public final class PolicyCompiler {
             state = AT_FACTOR;
             error = NO_ERROR;
             for (int i = 0; i < length && i < text.length && error == NO_ERROR; i++) {
-                take(text[i], i, slots);
+                switch (state) {
+                    case AT_FACTOR:
+                        takeFactor(text[i], i, slots);
+                        break;
+                    case AT_SIGN:
+                        takeSign(text[i], i);
+                        break;
+                    case AT_DIGIT:
+                        takeDigit(text[i], i);
+                        break;
+                    default:
+                        takeBehindAtom(text[i], i);
+                        break;
+                }
             }
             if (error == NO_ERROR) {
                 finish(length);
             }
             return error;
-        }
-
-        private void take(int letter, int at, Slot[] slots) {
-            switch (state) {
-                case AT_FACTOR:
-                    takeFactor(letter, at, slots);
-                    break;
-                case AT_SIGN:
-                    takeSign(letter, at);
-                    break;
-                case AT_DIGIT:
-                    takeDigit(letter, at);
-                    break;
-                default:
-                    takeBehindAtom(letter, at);
-                    break;
-            }
         }
 
         private void finish(int length) {
@@ -1380,6 +1379,10 @@ public final class PolicyCompiler {
 
         int rowTotal() {
             return rowCount;
+        }
+
+        boolean hasRow(int row) {
+            return row >= 0 && row < rowCount;
         }
 
         int demandsOf(int row) {
