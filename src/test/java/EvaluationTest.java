@@ -69,6 +69,8 @@ public final class EvaluationTest {
         dueOutputs("(x=0.x:1+x=1.x:2)*", 16, 16, 32);
         dueOutputs("(x=0.x:1+x=1.x:2)*", 48, 48);
         dueOutputs("(x=2.x:1+x=1.x:0)*.x=0", 32, 0);
+        dueOutputs("(x=2.x:0+x=0.x:1)*", 32, 0, 16, 32);
+        dueOutputs("(x=2.x:3+x=3.x:1)*", 47, 31, 47, 63);
         dueOutputs("x:1**", 0, 0, 16);
         dueOutputs("(x:1*.y:1)*", 0, 0, 4, 20);
         dueOutputs("(x:1+y:1)*", 0, 0, 4, 16, 20);
@@ -134,6 +136,9 @@ public final class EvaluationTest {
         Check.due("rounds of x:1.y:1", Check.holding("x:1.y:1").rounds(0), 1);
         Check.due("rounds of a chain", Check.holding("x=0.x:1+x=1.x:2+x=2.x:3").rounds(0), 3);
         Check.due("rounds of a cycle", Check.holding("x=0.x:1+x=1.x:2+x=2.x:0").rounds(0), 2);
+        Check.due("rounds of a fork", Check.holding("x=0.(x:1+x:2)+x=2.x:3").rounds(0), 2);
+        Check.due("rounds of the first packet", Check.holding("x=0.y=0.z=0.x:1").rounds(0), 1);
+        Check.due("rounds of the last packet", Check.holding("x=3.y=3.z=3.x:1").rounds(0), 1);
         Check.due("rounds of x:1+y:1+z:1", Check.holding("x:1+y:1+z:1").rounds(0), 3);
         PolicyCompiler x = Check.holding(COUNT.replace("[x=1?x:2|x:3]", "[x=1?x:2|q]"));
         Check.due("rounds of counting", x.rounds(0), 47);
@@ -169,6 +174,8 @@ public final class EvaluationTest {
         dueCompare("0", "1", 1);
         dueCompare("x:1", "x:1*", 1);
         dueCompare("x:1+y:1", "y:1", 2);
+        dueCompare("x=0.y=0.z=0", "0", 2);
+        dueCompare("x=3.y=3.z=3", "0", 2);
         dueCompare("x=1", "y=1", 3);
         dueCompare("x:1", "x:2", 3);
         dueCompare("x=0.y:1", "x=3.y:1", 3);

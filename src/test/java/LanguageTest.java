@@ -4,7 +4,7 @@ import java.nio.file.Path;
 import java.util.regex.Matcher;
 import java.util.regex.Pattern;
 
-/** Looks through the program's text for what ../shared/LANGUAGE.md rules out and a search can find. */
+/** Looks through the program's text for what ../shared/LANGUAGE.md rules out, or it does without. */
 public final class LanguageTest {
     private static final String[] FORBIDDEN = {"throw", "throws", "try", "catch", "finally",
         "synchronized", "assert", "import", "package", "protected", "volatile", "transient", "native",

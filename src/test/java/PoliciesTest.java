@@ -12,6 +12,7 @@ public final class PoliciesTest {
         promise4PredicateErrors();
         promise4TooLarge();
         promise4ErrorsChangeNothing();
+        promise4ParseAgainAndAgain();
         promise5Combine();
         promise5CombineErrors();
         promise6Modify();
@@ -314,6 +315,21 @@ public final class PoliciesTest {
         Check.due("the text stayed", x.clearText(), 61);
     }
 
+    /** What one parse leaves behind must not reach the next one. */
+    private static void promise4ParseAgainAndAgain() {
+        PolicyCompiler x = new PolicyCompiler();
+        Check.type(x, "[!x=1?!y=2|y=0.(z=1+z=2)]");
+        for (int i = 0; i < 200; i++) {
+            Check.due("parse(0)", x.parse(0), 10);
+            Check.due("isPredicate(0)", x.isPredicate(0), 1);
+        }
+        Check.type(x, "((((([!x=1");
+        Check.due("parse(0)", x.parse(0), -20);
+        Check.type(x, "x:1");
+        Check.due("parse(0)", x.parse(0), 1);
+        Check.due("isPredicate(0)", x.isPredicate(0), 0);
+    }
+
     private static void promise5Combine() {
         PolicyCompiler x = new PolicyCompiler();
         Check.parse(x, 0, "x=1+x=2");
@@ -425,6 +441,9 @@ public final class PoliciesTest {
         duePredicate("[x=1?1|y=1]", 1);
         duePredicate("[x=1?1|y:1]", 0);
         duePredicate("[x=1?y:1|1]", 0);
+        duePredicate("[x=1?1*|1]", 0);
+        duePredicate("y:1.[1?1|1]", 0);
+        duePredicate("y=1.[1?1|1]", 1);
         duePredicate("p.(q+s)", 1);
         PolicyCompiler x = new PolicyCompiler();
         Check.due("isPredicate(-1)", x.isPredicate(-1), -2);

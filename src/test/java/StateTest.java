@@ -3,6 +3,7 @@ public final class StateTest {
     public static void main(String[] args) {
         promise26Undo();
         promise26FiveStates();
+        promise26FiveStatesOfDifferentSlots();
         promise26EachSlot();
         promise26WhatIsNotSaved();
         promise27ErrorCount();
@@ -40,6 +41,23 @@ public final class StateTest {
         Check.due("modify(0, 0, 1)", x.modify(0, 0, 1), 4);
         Check.due("undo()", x.undo(), 0);
         Check.due("size(1)", x.size(1), 1);
+    }
+
+    private static void promise26FiveStatesOfDifferentSlots() {
+        PolicyCompiler x = new PolicyCompiler();
+        int[] targets = {3, 0, 1, 2, 3, 0, 1};
+        for (int i = 0; i < targets.length; i++) {
+            Check.parse(x, targets[i], "x=" + i % 4 + "*".repeat(i));
+        }
+        int[] sizesAfter = {3, 2, 1, 1, 1};
+        for (int i = 0; i < 5; i++) {
+            Check.due("undo()", x.undo(), 4 - i);
+            Check.due("size", x.size(targets[6 - i]), sizesAfter[i]);
+        }
+        Check.dueText("slot 0", Check.shown(x, 0), "x=1*");
+        Check.dueText("slot 1", Check.shown(x, 1), "1");
+        Check.dueText("slot 2", Check.shown(x, 2), "1");
+        Check.dueText("slot 3", Check.shown(x, 3), "x=0");
     }
 
     private static void promise26EachSlot() {
@@ -151,17 +169,20 @@ public final class StateTest {
         Check.parse(x, 0, "x=1.y:2");
         Check.parse(x, 2, "x:1+1");
         Check.parse(x, 3, "0");
+        Check.parse(x, 1, "x=1.x:0.y=1.y:0.z=1.z:0");
         Check.type(x, "x:1+1");
         // Packet 27 is (1, 2, 3): it keeps its values. Row 0 is that of y = 2.
         long h = hash(2729, 2, 1, 0, 0, 1, 5);
         h = hash(h, 3, 'x', '=', '1', '.', 'y', ':', '2', 0, 1L << 27, 0, 0xffff0000L, 1, 1, 5, 3, 2, 2,
                 1, 2, 4, 124, 1, 4, 4, 114);
-        h = hashOfOne(h);
+        // From packet 21 to packet 0: action 0.
+        h = hash(h, 11, 'x', '=', '1', '.', 'x', ':', '0', '.', 'y', '=', '1', '.', 'y', ':', '0', '.',
+                'z', '=', '1', '.', 'z', ':', '0', 0, 0, 0, 1L << 21, 1, 1, 5, 2, 3, 1, 1, 1, 1, 0);
         h = hash(h, 3, 'x', ':', '1', '+', '1', 1 | 1L << 16, 1L << 27, 1L << 63 | 1L << 31, -1L, 2, 1,
                 3, 2, 1, 2, 1, 4, 4, 124, 4, 4, 4, 49, 124);
         h = hash(h, 1, '0', 0, 0, 0, 0, 0, 0, 1, 1, 0, 0);
-        h = hash(h, 3, 0, 3, 0, 2, 16, 1, 0, 2, 0, 2, 0);
-        Check.due("digest() of a run", x.digest(), hash(h, 3));
+        h = hash(h, 3, 16, 3, 0, 2, 16, 3, 0, 2, 21, 2, 0);
+        Check.due("digest() of a run", x.digest(), hash(h, 4));
     }
 
     private static void promise28DigestChangesNothing() {
