@@ -422,6 +422,21 @@ public final class PolicyCompiler {
         return Long.bitCount((set & -set) - 1L) & (PACKETS - 1);
     }
 
+    /** What a set of packets is turned into, where the images of all packets begin at a place. */
+    private static long imageOfSet(long[] images, int begin, long set) {
+        long image = 0L;
+        long rest = set;
+        int packets = Long.bitCount(set);
+        for (int k = 0; k < packets; k++) {
+            int at = begin + lowestOf(rest);
+            if (at >= 0 && at < images.length) {
+                image |= images[at];
+            }
+            rest &= rest - 1L;
+        }
+        return image;
+    }
+
     private static int weightOf(int field) {
         return field == 0 ? ENTRIES * ENTRIES : field == 1 ? ENTRIES : 1;
     }
@@ -1002,19 +1017,8 @@ public final class PolicyCompiler {
 
         private void chain(int node, int left, int right) {
             for (int p = 0; p < PACKETS; p++) {
-                assign(node, p, imageOfSet(right, imageOf(left, p)));
+                assign(node, p, imageOfSet(images, right * PACKETS, imageOf(left, p)));
             }
-        }
-
-        private long imageOfSet(int node, long set) {
-            long image = 0L;
-            long rest = set;
-            int packets = Long.bitCount(set);
-            for (int k = 0; k < packets; k++) {
-                image |= imageOf(node, lowestOf(rest));
-                rest &= rest - 1L;
-            }
-            return image;
         }
 
         /** Warshall's closure: lets the ways lead through one packet more at a time. */
@@ -1105,21 +1109,10 @@ public final class PolicyCompiler {
             int steps = -1;
             for (int k = 0; k <= PACKETS && edge != 0L; k++) {
                 steps++;
-                edge = imageOfSet(edge) & ~reached;
+                edge = imageOfSet(images, 0, edge) & ~reached;
                 reached |= edge;
             }
             return steps;
-        }
-
-        private long imageOfSet(long set) {
-            long image = 0L;
-            long rest = set;
-            int packets = Long.bitCount(set);
-            for (int k = 0; k < packets; k++) {
-                image |= images[lowestOf(rest)];
-                rest &= rest - 1L;
-            }
-            return image;
         }
 
         /** 0 if equal, 1 if within the other, 2 if the other is within this, otherwise 3. */

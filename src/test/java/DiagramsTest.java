@@ -69,6 +69,9 @@ public final class DiagramsTest {
         Check.due("sharedNodes of " + a + " and " + b, x.sharedNodes(0, 1), shared);
         Check.due("sharedNodes of " + b + " and " + a, x.sharedNodes(1, 0), shared);
         Check.due("sharedNodes(0, 0)", x.sharedNodes(0, 0), x.diagramSize(0));
+        Check.parse(x, 1, "1.p");
+        Check.due("sharedNodes with a smaller one", x.sharedNodes(0, 2), x.sharedNodes(2, 0));
+        Check.due("sharedNodes with an equal one", x.sharedNodes(0, 1), x.diagramSize(0));
     }
 
     private static void promise20SharedNodes() {

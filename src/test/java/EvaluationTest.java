@@ -118,6 +118,7 @@ public final class EvaluationTest {
         Check.due("spread of 1", Check.holding("1").spread(0), 1);
         Check.due("spread of x:1", Check.holding("x:1").spread(0), 1);
         Check.due("spread of x:1+y:1", Check.holding("x:1+y:1").spread(0), 2);
+        Check.due("spread at 0", Check.holding("x=0.y=0.z=0.(x:1+y:1+z:1)").spread(0), 3);
         Check.due("spread at 63", Check.holding("x=3.y=3.z=3.(x:1+y:1+z:1)").spread(0), 3);
         Check.due("spread of all", Check.holding(
                 "(x:0+x:1+x:2+x:3).(y:0+y:1+y:2+y:3).(z:0+z:1+z:2+z:3)").spread(0), 64);
