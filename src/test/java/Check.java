@@ -1,7 +1,14 @@
+import java.io.IOException;
+import java.io.UncheckedIOException;
+import java.nio.file.Files;
+import java.nio.file.Path;
+
 /** What the tests have in common: counting wrong answers, and typing a text into a compiler. */
 final class Check {
     private static int wrong = 0;
     private static int answers = 0;
+    private static String sentence = "";
+    private static String document = "";
 
     private Check() {
     }
@@ -10,13 +17,42 @@ final class Check {
     static void due(String call, long got, long want) {
         answers++;
         if (got != want) {
-            wrong++;
-            System.out.println(call + " answered " + got + ", due is " + want);
+            fault(call + " answered " + got + ", due is " + want);
         }
     }
 
     static void that(String what, boolean holds) {
         due(what, holds ? 1 : 0, 1);
+    }
+
+    static void dueText(String call, String got, String want) {
+        answers++;
+        if (!got.equals(want)) {
+            fault(call + " answered " + got + ", due is " + want);
+        }
+    }
+
+    private static void fault(String what) {
+        wrong++;
+        System.out.println(what + (sentence.isEmpty() ? "" : " (" + sentence + ")"));
+    }
+
+    /** Quotes what the document says and the answers from here on show; a wrong one names it. */
+    static void sentence(String quote) {
+        sentence = "";
+        that("the document says: " + quote, document().contains(quote));
+        sentence = quote;
+    }
+
+    private static String document() {
+        if (document.isEmpty()) {
+            try {
+                document = Files.readString(Path.of("../shared/DOC.md")).replaceAll("\\s+", " ");
+            } catch (IOException e) {
+                throw new UncheckedIOException(e);
+            }
+        }
+        return document;
     }
 
     /** Replaces the policy text. */
@@ -33,11 +69,18 @@ final class Check {
         return x.parse(slot);
     }
 
-    /** A new compiler whose slot 0 holds a policy. */
-    static PolicyCompiler holding(String policy) {
+    /** A new compiler whose slots, from slot 0 on, hold policies. */
+    static PolicyCompiler holding(String... policies) {
         PolicyCompiler x = new PolicyCompiler();
-        that("parse " + policy, parse(x, 0, policy) > 0);
+        for (int s = 0; s < policies.length; s++) {
+            that("parse " + policies[s], parse(x, s, policies[s]) > 0);
+        }
         return x;
+    }
+
+    /** What a new compiler answers when it parses a text. */
+    static int parsed(String text) {
+        return parse(new PolicyCompiler(), 0, text);
     }
 
     /** The printed form of the policy in a slot. */
@@ -48,14 +91,6 @@ final class Check {
             form.append((char) x.printed(slot, i));
         }
         return form.toString();
-    }
-
-    static void dueText(String call, String got, String want) {
-        answers++;
-        if (!got.equals(want)) {
-            wrong++;
-            System.out.println(call + " answered " + got + ", due is " + want);
-        }
     }
 
     /** Ends the test: with exit code 1 if an answer was wrong or nothing was asked. */
