@@ -12,7 +12,7 @@ public final class AllocationTest {
         Check.that("a new object takes " + made + " bytes", made < 200_000);
         calls(x);
         before = THREADS.getCurrentThreadAllocatedBytes();
-        for (int round = 0; round < 20; round++) {
+        for (int round = 0; round < 7; round++) {
             calls(x);
         }
         long taken = THREADS.getCurrentThreadAllocatedBytes() - before;

@@ -11,12 +11,15 @@ public final class DiagramBoundsTest {
         smallestDiagrams();
         deepestDiagrams();
         largestDiagram();
+        depthsFrom0To3();
+        leavesFrom1To64();
         depthsOfWays();
         fieldsInAscendingOrder();
         fourEqualChildren();
         equalNodesOnce();
         equalLeavesOnce();
         policyDoesNotMatter();
+        diagramsOfLaterPolicies();
         sharedWithItself();
         sharedByNone();
         sharedByOne();
@@ -119,6 +122,36 @@ public final class DiagramBoundsTest {
         dueShape("!x=0." + EVERYTHING, 65, 49, 3);
     }
 
+    private static void depthsFrom0To3() {
+        Check.sentence("Returns the depth, 0 to 3;");
+        PolicyCompiler x = Check.holding("1", "z=3", "y=3.z=3", "x=3.y=3.z=3");
+        for (int s = 0; s < 4; s++) {
+            Check.due("diagramDepth(" + s + ")", x.diagramDepth(s), s);
+        }
+    }
+
+    private static void leavesFrom1To64() {
+        Check.sentence("Returns the number of leaves;");
+        // The packets from 0 to n - 1 have action sets of their own, the others the empty one.
+        for (int n = 0; n < 64; n++) {
+            String before = "x=" + n / 16 + ".(y=" + n / 4 % 4 + "." + below("z", n % 4) + "+" + below("y", n / 4 % 4)
+                    + ")+" + below("x", n / 16);
+            PolicyCompiler x = Check.holding(before, EVERYTHING);
+            Check.due("size", Check.parse(x, 2, "p.q"), x.size(0) + 24);
+            Check.due("leaves of the first " + n, x.leaves(2), n + 1);
+        }
+        dueShape(EVERYTHING, 85, 64, 3);
+    }
+
+    /** The test whether a field has a value less than this one. */
+    private static String below(String field, int value) {
+        StringBuilder test = new StringBuilder("(0");
+        for (int v = 0; v < value; v++) {
+            test.append('+').append(field).append('=').append(v);
+        }
+        return test.append(')').toString();
+    }
+
     private static void depthsOfWays() {
         Check.sentence("its depth is the greatest number of test nodes on a way from the root to a leaf.");
         for (String test : new String[] {"x=0", "x=3", "y=0", "y=3", "z=0", "z=3", "x:0", "y:3", "z:2", "!z=1"}) {
@@ -194,6 +227,36 @@ public final class DiagramBoundsTest {
             Check.due("diagramDepth of " + pair[0], x.diagramDepth(0), x.diagramDepth(1));
             Check.due("sharedNodes of " + pair[0], x.sharedNodes(0, 1), x.diagramSize(0));
         }
+    }
+
+    private static void dueSlot(PolicyCompiler x, int slot, int size, int leaves, int depth, int rows) {
+        Check.due("diagramSize(" + slot + ")", x.diagramSize(slot), size);
+        Check.due("leaves(" + slot + ")", x.leaves(slot), leaves);
+        Check.due("diagramDepth(" + slot + ")", x.diagramDepth(slot), depth);
+        Check.due("sharedNodes(" + slot + ", " + slot + ")", x.sharedNodes(slot, slot), size);
+        Check.due("rows(" + slot + ")", x.rows(slot), rows);
+    }
+
+    /** What a slot held before leaves no node behind. */
+    private static void diagramsOfLaterPolicies() {
+        Check.sentence("These rules determine the diagram.");
+        PolicyCompiler x = Check.holding(EVERYTHING);
+        dueSlot(x, 0, 85, 64, 3, 64);
+        Check.due("parse of 0", Check.parse(x, 0, "0"), 1);
+        dueSlot(x, 0, 1, 1, 0, 0);
+        Check.due("parse of x=1.y:2", Check.parse(x, 0, "x=1.y:2"), 3);
+        dueSlot(x, 0, 5, 3, 2, 2);
+        Check.due("combine(0, 0, 1, 0)", x.combine(0, 0, 1, 0), 5);
+        Check.due("modify(0, 1, 0)", x.modify(0, 1, 0), 2);
+        dueSlot(x, 0, 1, 1, 0, 1);
+        x.undo();
+        x.undo();
+        dueSlot(x, 0, 5, 3, 2, 2);
+        x.undo();
+        x.undo();
+        dueSlot(x, 0, 85, 64, 3, 64);
+        x.undo();
+        dueSlot(x, 0, 1, 1, 0, 1);
     }
 
     private static void sharedWithItself() {

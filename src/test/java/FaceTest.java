@@ -23,11 +23,17 @@ public final class FaceTest {
     }
 
     private static void constants() {
+        Check.sentence("`OUT_OF_RANGE = -2`: An argument is not in its range.");
         Check.due("OUT_OF_RANGE", PolicyCompiler.OUT_OF_RANGE, -2);
+        Check.sentence("`NOT_A_PREDICATE = -3`: The policy is not a predicate.");
         Check.due("NOT_A_PREDICATE", PolicyCompiler.NOT_A_PREDICATE, -3);
+        Check.sentence("`TOO_LARGE = -4`: The policy would have a size greater than 60.");
         Check.due("TOO_LARGE", PolicyCompiler.TOO_LARGE, -4);
+        Check.sentence("`FULL = -5`: There is no more room.");
         Check.due("FULL", PolicyCompiler.FULL, -5);
+        Check.sentence("`NOTHING_SAVED = -6`: There is no saved state.");
         Check.due("NOTHING_SAVED", PolicyCompiler.NOTHING_SAVED, -6);
+        Check.sentence("`NONE = -1`: There is no such thing.");
         Check.due("NONE", PolicyCompiler.NONE, -1);
     }
 
@@ -36,6 +42,7 @@ public final class FaceTest {
     }
 
     private static void members() {
+        Check.sentence("public final class PolicyCompiler {");
         Class<?> face = PolicyCompiler.class;
         Check.that("the class is public and final",
                 Modifier.isPublic(face.getModifiers()) && Modifier.isFinal(face.getModifiers()));

@@ -48,6 +48,10 @@ public final class PolicyBoundsTest {
         return "x=" + p / 16 + ".y=" + p / 4 % 4 + ".z=" + p % 4;
     }
 
+    private static String step(int from, int to) {
+        return packet(from) + ".x:" + to / 16 + ".y:" + to / 4 % 4 + ".z:" + to % 4;
+    }
+
     private static void packetFields() {
         Check.sentence("A packet has three fields, x, y and z (numbered 0, 1 and 2), each with a value "
                 + "from 0 to 3.");
@@ -181,6 +185,19 @@ public final class PolicyBoundsTest {
             Check.due("up to three steps from " + p, x.outputs(2, p), upwards);
             Check.due("up to three steps down from " + p, x.outputs(3, p), downwards);
         }
+        // A way of two steps over each packet, and one back to its begin.
+        for (int via = 0; via < 64; via++) {
+            int from = (via + 21) % 64;
+            int to = (via + 42) % 64;
+            PolicyCompiler y = Check.holding("(" + step(from, via) + "+" + step(via, to) + ")*",
+                    "(" + step(from, via) + "+" + step(via, to) + "+" + step(to, from) + ")*");
+            Check.due("from " + from, y.outputs(0, from), set(from, via, to));
+            Check.due("from " + via, y.outputs(0, via), set(via, to));
+            Check.due("from " + to, y.outputs(0, to), set(to));
+            Check.due("around from " + from, y.outputs(1, from), set(from, via, to));
+            Check.due("around from " + via, y.outputs(1, via), set(from, via, to));
+            Check.due("around from " + to, y.outputs(1, to), set(from, via, to));
+        }
     }
 
     private static void negations() {
@@ -217,7 +234,8 @@ public final class PolicyBoundsTest {
             "!(x=0+y=0)", "[!0?!1|x=0.1]", "x=0+y=0+z=0", "x=0.y=0.z=0", "[[1?0|1]?[1?0|1]|[1?0|1]]"};
         String[] others = {"x:0", "z:3", "0*", "1*", "x=0*", "x:0+1", "1+x:0", "x:0.1", "1.x:0", "[1?x:0|1]",
             "[1?1|x:0]", "[1?x:0|x:0]", "[1?1*|1]", "[1?1|1*]", "1*+1", "1.1*", "!0+x:0", "!0.x:0",
-            "(!0)*", "x=0+y=0+z:0", "x:0.y=0.z=0", "[1?[1?1|x:0]|1]", "[0?x:0|1]", "[1?1|0.x:0]"};
+            "(!0)*", "x=0+y=0+z:0", "x:0.y=0.z=0",
+            "x:0+[1?1|1]", "x:0.[1?1|1]", "[1?1|1]+x:0", "[1?1|1].x:0", "x:0+!1", "x:0.!!1", "x:0+1+1", "[1?[1?1|x:0]|1]", "[0?x:0|1]", "[1?1|0.x:0]"};
         for (String text : predicates) {
             Check.due("isPredicate of " + text, Check.holding(text).isPredicate(0), 1);
         }

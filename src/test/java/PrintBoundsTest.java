@@ -210,13 +210,9 @@ public final class PrintBoundsTest {
         Check.due("printed(0, 196)", x.printed(0, 196), ']');
         Check.due("printed(0, 197)", x.printed(0, 197), -1);
         // Parentheses as deep as they go.
-        PolicyCompiler y = new PolicyCompiler();
-        Check.due("size", Check.parse(y, 0, "1.(".repeat(29) + "x=1" + ")".repeat(29)), 59);
-        Check.dueText("right and right again", Check.shown(y, 0), "1.(".repeat(28) + "1.x=1" + ")".repeat(28));
-        Check.due("size", Check.parse(y, 0, "(1.".repeat(19) + "x=1" + ")*".repeat(19)), 58);
-        Check.dueText("repeated", Check.shown(y, 0), "(1.".repeat(19) + "x=1" + ")*".repeat(19));
-        Check.due("size", Check.parse(y, 0, "!(1+".repeat(19) + "x=1" + ")".repeat(19) + "+0"), 60);
-        Check.dueText("negated", Check.shown(y, 0), "!(1+".repeat(19) + "x=1" + ")".repeat(19) + "+0");
+        dueForm("1.(".repeat(29) + "x=1" + ")".repeat(29), "1.(".repeat(28) + "1.x=1" + ")".repeat(28));
+        dueForm("(1.".repeat(19) + "x=1" + ")*".repeat(19), "(1.".repeat(19) + "x=1" + ")*".repeat(19));
+        dueForm("!(1+".repeat(19) + "x=1" + ")".repeat(19) + "+0", "!(1+".repeat(19) + "x=1" + ")".repeat(19) + "+0");
     }
 
     private static void kindsOfCombine() {

@@ -26,7 +26,7 @@ public final class RunsAgainstModelTest {
     private void go() {
         boolean tight = random.nextInt(4) == 0;
         while (calls < 512) {
-            if (random.nextInt(100) < (tight ? 2 : 6)) {
+            if (calls < 510 && random.nextInt(100) < (tight ? 2 : 6)) {
                 typePolicy();
             } else {
                 call();

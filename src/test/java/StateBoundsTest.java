@@ -449,10 +449,12 @@ public final class StateBoundsTest {
     private static void digestOfCounters() {
         Check.sentence("the counters of the codes -2, -3, -4, -5, -6;");
         for (int code = -6; code <= -2; code++) {
-            PolicyCompiler x = code == -6 ? new PolicyCompiler() : readyForErrors();
             for (int times = 0; times <= 2; times++) {
+                PolicyCompiler x = code == -6 ? new PolicyCompiler() : readyForErrors();
+                for (int i = 0; i < times; i++) {
+                    Check.due("an error", error(x, code), code);
+                }
                 dueDigest(x, code == -6 ? 0 : 150, code == -6 ? 0 : 2);
-                Check.due("an error", error(x, code), code);
             }
         }
         PolicyCompiler x = readyForErrors();

@@ -11,6 +11,7 @@ public final class TableBoundsTest {
 
     public static void main(String[] args) {
         tablesOfOneField();
+        demandsOfEachField();
         sameNonMainChildTwice();
         matchIsExtended();
         tableWithoutARow();
@@ -108,6 +109,23 @@ public final class TableBoundsTest {
             kept = rows.size();
         }
         return rows.subList(0, kept).toArray(new String[0]);
+    }
+
+    private static void demandsOfEachField() {
+        Check.sentence("A row of a table has a match, which demands for each field a value or nothing, and an "
+                + "action set.");
+        for (int code = 0; code < 125; code++) {
+            int[] demands = {code / 25, code / 5 % 5, code % 5};
+            StringBuilder policy = new StringBuilder("1");
+            int packets = 64;
+            for (int f = 0; f < 3; f++) {
+                if (demands[f] < 4) {
+                    policy.append('.').append("xyz".charAt(f)).append('=').append(demands[f]);
+                    packets /= 4;
+                }
+            }
+            dueTable(policy.toString(), "" + demands[0] + demands[1] + demands[2] + " 124 #" + packets);
+        }
     }
 
     private static void sameNonMainChildTwice() {

@@ -439,14 +439,18 @@ public final class TextBoundsTest {
     private static void predicateErrorsAtTheEdges() {
         Check.sentence("If the operand of a negation or the c of a choice is not a predicate, the syntax "
                 + "error position is the index of the first byte of this operand or c,");
-        PolicyCompiler x = Check.holding("x:0");
-        Check.due("at the last index", Check.parse(x, 0, "!".repeat(149) + "p"), -159);
-        Check.due("a condition at the last index", Check.parse(x, 0, "[".repeat(149) + "p"), -159);
-        Check.due("from the second byte to the last", Check.parse(x, 0, "!1" + "*".repeat(148)), -11);
-        Check.due("from the second byte to the last", Check.parse(x, 0, "!" + "(".repeat(74) + "p"
-                + ")".repeat(74)), -11);
-        Check.due("from the second byte to the last", Check.parse(x, 0, "[" + "1+".repeat(74) + "p"), -11);
-        Check.due("one parenthesis short", Check.parse(x, 0, "!" + "(".repeat(75) + "p" + ")".repeat(73)), -160);
+        dueParseWithP("!".repeat(149) + "p", -159);
+        dueParseWithP("[".repeat(149) + "p", -159);
+        // An operand that goes from the second byte to the last.
+        dueParseWithP("!1" + "*".repeat(148), -11);
+        dueParseWithP("!" + "(".repeat(74) + "p" + ")".repeat(74), -11);
+        dueParseWithP("[" + "1+".repeat(74) + "p", -11);
+        dueParseWithP("!" + "(".repeat(75) + "p" + ")".repeat(73), -160);
+    }
+
+    /** Parses a text where slot 0 holds no predicate. */
+    private static void dueParseWithP(String text, int want) {
+        Check.due("parse of " + text, Check.parse(Check.holding("x:0"), 0, text), want);
     }
 
     private static void syntaxErrorsChangeNothing() {
