@@ -288,10 +288,11 @@ public final class PolicyCompiler {
     // ---- state
 
     public int undo() {
-        if (history.savedCount() == 0) {
+        int changed = history.newestSlot();
+        if (!isSlot(changed)) {
             return fail(NOTHING_SAVED);
         }
-        slots[history.newestSlot()].hold(history.newestPolicy());
+        slots[changed].hold(history.newestPolicy());
         history.dropNewest();
         return history.savedCount();
     }
@@ -474,7 +475,7 @@ public final class PolicyCompiler {
             if (count < MAX_SIZE) {
                 int operands = operandsOf(kind);
                 int begin = count;
-                for (int k = 0; k < operands && begin > 0; k++) {
+                for (int k = 0; k < operands && begin > 0 && begin <= MAX_SIZE; k++) {
                     begin = begins[begin - 1];
                 }
                 nodes[count] = (kind << 4) | (field << 2) | value;
@@ -1537,8 +1538,9 @@ public final class PolicyCompiler {
             saved--;
         }
 
+        /** The slot that the newest saved state restores, or NONE if there is no saved state. */
         int newestSlot() {
-            return saved > 0 && saved <= MAX_SAVED ? changed[saved - 1] : 0;
+            return saved > 0 && saved <= MAX_SAVED ? changed[saved - 1] : NONE;
         }
 
         Policy newestPolicy() {

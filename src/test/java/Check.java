@@ -44,7 +44,8 @@ final class Check {
         sentence = quote;
     }
 
-    private static String document() {
+    /** The document with one blank between any two words. */
+    static String document() {
         if (document.isEmpty()) {
             try {
                 document = Files.readString(Path.of("../shared/DOC.md")).replaceAll("\\s+", " ");
@@ -91,6 +92,31 @@ final class Check {
             form.append((char) x.printed(slot, i));
         }
         return form.toString();
+    }
+
+    /** A row of a table as text: what it demands of x, y and z, its actions, and how many packets hit it. */
+    static String row(PolicyCompiler x, int slot, int row) {
+        StringBuilder text = new StringBuilder();
+        for (int f = 0; f < 3; f++) {
+            int demand = x.match(slot, row, f);
+            text.append(demand == 4 ? "-" : "" + demand);
+        }
+        int actions = x.action(slot, row, -1);
+        for (int i = 0; i < actions; i++) {
+            text.append(i == 0 ? " " : ",").append(x.action(slot, row, i));
+        }
+        due("the action behind the last", x.action(slot, row, actions), -1);
+        return text.append(" #").append(x.hits(slot, row)).toString();
+    }
+
+    /** Notes whether a policy has this table; what is not one of its rows must be out of range. */
+    static void dueTable(String text, String... rows) {
+        PolicyCompiler x = holding(text);
+        due("rows of " + text, x.rows(0), rows.length);
+        for (int r = 0; r < rows.length && r < x.rows(0); r++) {
+            dueText("row " + r + " of " + text, row(x, 0, r), rows[r]);
+        }
+        due("a row behind the last", x.match(0, rows.length, 0), -2);
     }
 
     /** Ends the test: with exit code 1 if an answer was wrong or nothing was asked. */

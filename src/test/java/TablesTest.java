@@ -18,38 +18,14 @@ public final class TablesTest {
         Check.end();
     }
 
-    /** A row as text: what it demands of x, y and z, its actions, and how many packets hit it. */
-    private static String row(PolicyCompiler x, int row) {
-        StringBuilder text = new StringBuilder();
-        for (int f = 0; f < 3; f++) {
-            int demand = x.match(0, row, f);
-            text.append(demand == 4 ? "-" : "" + demand);
-        }
-        int actions = x.action(0, row, -1);
-        for (int i = 0; i < actions; i++) {
-            text.append(i == 0 ? " " : ",").append(x.action(0, row, i));
-        }
-        Check.due("the action behind the last", x.action(0, row, actions), -1);
-        return text.append(" #").append(x.hits(0, row)).toString();
-    }
-
-    private static void dueTable(String text, String... rows) {
-        PolicyCompiler x = Check.holding(text);
-        Check.due("rows of " + text, x.rows(0), rows.length);
-        for (int r = 0; r < rows.length && r < x.rows(0); r++) {
-            Check.dueText("row " + r + " of " + text, row(x, r), rows[r]);
-        }
-        Check.due("a row behind the last", x.match(0, rows.length, 0), -2);
-    }
-
     private static void simpleTables() {
-        dueTable("0");
-        dueTable("1", "--- 124 #64");
-        dueTable("x:1", "1-- 124 #16", "--- 49 #48");
-        dueTable("y:0", "-0- 124 #16", "--- 104 #48");
-        dueTable("z:3", "--3 124 #16", "--- 123 #48");
-        dueTable("x=1.y:2", "12- 124 #4", "1-- 114 #12");
-        dueTable("x:1+1", "1-- 124 #16", "--- 49,124 #48");
+        Check.dueTable("0");
+        Check.dueTable("1", "--- 124 #64");
+        Check.dueTable("x:1", "1-- 124 #16", "--- 49 #48");
+        Check.dueTable("y:0", "-0- 124 #16", "--- 104 #48");
+        Check.dueTable("z:3", "--3 124 #16", "--- 123 #48");
+        Check.dueTable("x=1.y:2", "12- 124 #4", "1-- 114 #12");
+        Check.dueTable("x:1+1", "1-- 124 #16", "--- 49,124 #48");
         PolicyCompiler x = Check.holding("x=1.y:2");
         Check.due("hit(0, 24)", x.hit(0, 24), 0);
         Check.due("hit(0, 20)", x.hit(0, 20), 1);
@@ -59,25 +35,25 @@ public final class TablesTest {
 
     private static void mainChild() {
         // Two and two: the child of the lowest value is the main child.
-        dueTable("x=0+x=1", "2-- #16", "3-- #16", "--- 124 #32");
-        dueTable("x=0+x=3", "1-- #16", "2-- #16", "--- 124 #32");
-        dueTable("x=2+x=3", "2-- 124 #16", "3-- 124 #16");
+        Check.dueTable("x=0+x=1", "2-- #16", "3-- #16", "--- 124 #32");
+        Check.dueTable("x=0+x=3", "1-- #16", "2-- #16", "--- 124 #32");
+        Check.dueTable("x=2+x=3", "2-- 124 #16", "3-- 124 #16");
         // The most frequent child wins over that of the lowest value.
-        dueTable("x=1+x=2+x=3", "0-- #16", "--- 124 #48");
-        dueTable("x=1+x=2.z:0+x=3", "0-- #16", "2-0 124 #4", "2-- 120 #12", "--- 124 #32");
+        Check.dueTable("x=1+x=2+x=3", "0-- #16", "--- 124 #48");
+        Check.dueTable("x=1+x=2.z:0+x=3", "0-- #16", "2-0 124 #4", "2-- 120 #12", "--- 124 #32");
         // Four different children: the lowest value has the main child.
-        dueTable("x=1+x=2.z:0+x=3.y:0", "1-- 124 #16", "2-0 124 #4", "2-- 120 #12", "30- 124 #4",
+        Check.dueTable("x=1+x=2.z:0+x=3.y:0", "1-- 124 #16", "2-0 124 #4", "2-- 120 #12", "30- 124 #4",
                 "3-- 104 #12");
-        dueTable("x:0+x:1", "0-- 49,124 #16", "1-- 24,124 #16", "--- 24,49 #32");
+        Check.dueTable("x:0+x:1", "0-- 49,124 #16", "1-- 24,124 #16", "--- 24,49 #32");
     }
 
     private static void emptyRows() {
         // Several empty rows at the end are removed, those before the last row that acts stay.
-        dueTable("x=1.y=1.z=1", "111 124 #1");
-        dueTable("x=0.y=1+x=3", "01- 124 #4", "0-- #12", "3-- 124 #16");
-        dueTable("!x=2", "2-- #16", "--- 124 #48");
-        dueTable("!(x=2.y=2)", "22- #4", "2-- 124 #12", "--- 124 #48");
-        dueTable("x=1.x=2");
+        Check.dueTable("x=1.y=1.z=1", "111 124 #1");
+        Check.dueTable("x=0.y=1+x=3", "01- 124 #4", "0-- #12", "3-- 124 #16");
+        Check.dueTable("!x=2", "2-- #16", "--- 124 #48");
+        Check.dueTable("!(x=2.y=2)", "22- #4", "2-- 124 #12", "--- 124 #48");
+        Check.dueTable("x=1.x=2");
         PolicyCompiler x = Check.holding("!x=2");
         Check.due("a packet can hit an empty row", x.hit(0, 32), 0);
         Check.due("its number of actions", x.action(0, 0, -1), 0);
@@ -85,7 +61,7 @@ public final class TablesTest {
     }
 
     private static void nestedTable() {
-        dueTable("[x=0?y:1|z:2]", "01- 124 #4", "0-- 109 #12", "--2 124 #12", "--- 122 #36");
+        Check.dueTable("[x=0?y:1|z:2]", "01- 124 #4", "0-- 109 #12", "--2 124 #12", "--- 122 #36");
         PolicyCompiler x = Check.holding("[x=0?y:1|z:2]");
         Check.due("hit(0, 4)", x.hit(0, 4), 0);
         Check.due("hit(0, 6)", x.hit(0, 6), 0);
