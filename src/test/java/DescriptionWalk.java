@@ -49,8 +49,8 @@ final class DescriptionWalk {
     private static void whatItIs() {
         Walk.free("# PolicyCompiler ## What it is");
         Walk.next("A compiler for packet policies in the style of NetKAT: policies of tests, assignments, unions, "
-                + "sequences, repetitions and choices are parsed, evaluated on packets, turned into canonical decision "
-                + "diagrams and into ranked match-action tables, and compared with witnesses.");
+                + "sequences, repetitions and choices are parsed, evaluated on packets, turned into canonical "
+                + "decision diagrams and into ranked match-action tables, and compared with witnesses.");
         // Packets with x = 1 may get y = 2; of the others those with z = 3 pass, and no other one does.
         PolicyCompiler x = Check.holding("[x=1?y:2*|z=3+x:0.x=1]", "[x=1?y:2*|z=3]", "[x=1?y:2|z=3]");
         Check.dueText("parsed", Check.shown(x, 0), "[x=1?y:2*|z=3+x:0.x=1]");
@@ -205,8 +205,8 @@ final class DescriptionWalk {
         dueImages("0", imagesOf("0"), filtered(p -> false));
         Walk.next("the constant 1 turns each packet into the set of this packet alone;");
         dueImages("1", imagesOf("1"), filtered(p -> true));
-        Walk.next("a test f=v turns a packet whose field f has the value v into the set of this packet alone, and each "
-                + "other packet into the empty set;");
+        Walk.next("a test f=v turns a packet whose field f has the value v into the set of this packet alone, and "
+                + "each other packet into the empty set;");
         for (int code = 0; code < 12; code++) {
             int field = code / 4;
             int v = code % 4;
@@ -250,8 +250,8 @@ final class DescriptionWalk {
                 dueImages(a + "+" + b, imagesOf(a + "+" + b), united(imagesOf(a), imagesOf(b)));
             }
         }
-        Walk.next("the sequence a.b turns a packet into the union, over all packets q into which a turns it, of what b "
-                + "turns q into;");
+        Walk.next("the sequence a.b turns a packet into the union, over all packets q into which a turns it, of what "
+                + "b turns q into;");
         for (String a : POLICIES) {
             for (String b : POLICIES) {
                 String sequence = "(" + a + ").(" + b + ")";
@@ -262,8 +262,7 @@ final class DescriptionWalk {
 
     private static void repetitions() {
         Walk.next("the repetition a* turns a packet into the set of all packets that can be reached from it in 0 or "
-                + "more "
-                + "steps, each step leading from a packet to one of the packets into which a turns it;");
+                + "more steps, each step leading from a packet to one of the packets into which a turns it;");
         for (String a : POLICIES) {
             long[] step = imagesOf(a);
             long[] due = filtered(p -> true);
@@ -275,8 +274,8 @@ final class DescriptionWalk {
     }
 
     private static void negations() {
-        Walk.next("the negation !a, where a must be a predicate, turns a packet into the set of this packet alone if a "
-                + "turns it into the empty set, and into the empty set otherwise;");
+        Walk.next("the negation !a, where a must be a predicate, turns a packet into the set of this packet alone if "
+                + "a turns it into the empty set, and into the empty set otherwise;");
         for (String a : PREDICATES) {
             long[] images = imagesOf(a);
             dueImages("!(" + a + ")", imagesOf("!(" + a + ")"), filtered(p -> images[p] == 0));
@@ -288,8 +287,7 @@ final class DescriptionWalk {
 
     private static void choices() {
         Walk.next("the choice [c?a|b], where c must be a predicate, turns a packet into what a turns it into if c "
-                + "does not "
-                + "turn it into the empty set, and into what b turns it into otherwise.");
+                + "does not turn it into the empty set, and into what b turns it into otherwise.");
         for (String c : PREDICATES) {
             for (int i = 0; i < POLICIES.length; i++) {
                 String a = POLICIES[i];
@@ -312,8 +310,8 @@ final class DescriptionWalk {
     }
 
     private static void predicates() {
-        Walk.next("Predicates are the constants, tests, negations, unions and sequences of two predicates, and choices "
-                + "with predicates a and b.");
+        Walk.next("Predicates are the constants, tests, negations, unions and sequences of two predicates, and "
+                + "choices with predicates a and b.");
         for (String predicate : PREDICATES) {
             duePredicate(predicate, 1);
             duePredicate("!(" + predicate + ")", 1);

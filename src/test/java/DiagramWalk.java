@@ -46,8 +46,8 @@ final class DiagramWalk {
     private static void actions() {
         Walk.free("Actions.");
         Walk.next("For a packet p and a packet q into which a policy turns it, the action has one entry for each "
-                + "field: 4 "
-                + "if q has the same value as p in this field (keep), otherwise the value of q in this field.");
+                + "field: 4 if q has the same value as p in this field (keep), otherwise the value of q in this "
+                + "field.");
         String packet = "x=1.y=2.z=3.";
         Check.dueTable(packet + "x:1.y:2.z:3", "123 124 #1");
         Check.dueTable(packet + "x:0.y:2.z:3", "123 24 #1");
@@ -137,8 +137,7 @@ final class DiagramWalk {
 
     private static void ways() {
         Walk.next("For each packet, the way that starts at the root and takes at each test node the child for the "
-                + "packet's "
-                + "value ends at a leaf with the action set of the packet.");
+                + "packet's value ends at a leaf with the action set of the packet.");
         for (String policy : POLICIES) {
             PolicyCompiler x = Check.holding(policy);
             TreeSet<String> different = new TreeSet<>();
@@ -171,8 +170,7 @@ final class DiagramWalk {
 
     private static void equalNodes() {
         Walk.next("and equal nodes exist only once (leaves are equal if their action sets are equal, test nodes if "
-                + "their "
-                + "fields and all their children are equal).");
+                + "their fields and all their children are equal).");
         dueShape("(x=0+x=1).x:3", 3, 2, 1);
         dueShape("(x=0+x=3).x:3", 4, 3, 1);
         dueShape("x=0.z=1+x=3.z=1", 4, 2, 2);
@@ -256,8 +254,7 @@ final class DiagramWalk {
 
     private static void mainChild() {
         Walk.next("At a test node, the main child is the child that the most values have (if several children are "
-                + "equally "
-                + "frequent, the one among them that the lowest value has);");
+                + "equally frequent, the one among them that the lowest value has);");
         Check.dueTable("x=1+x=2+x=3", "0-- #16", "--- 124 #48");
         Check.dueTable("x=0+x=2+x=3", "1-- #16", "--- 124 #48");
         // Two and one and one.
@@ -275,8 +272,7 @@ final class DiagramWalk {
 
     private static void otherChildren() {
         Walk.next("first, for each value in ascending order whose child is not the main child, the walk visits this "
-                + "child "
-                + "with the match extended by this value of the field;");
+                + "child with the match extended by this value of the field;");
         Check.dueTable("x=1.y=2+x=3.y=2.z=1", "12- 124 #4", "1-- #12", "321 124 #1");
         Check.dueTable("x=3.y=3.(z=2+z=1)", "331 124 #1", "332 124 #1");
         Walk.next("then it visits the main child with the match unchanged.");
@@ -286,8 +282,7 @@ final class DiagramWalk {
 
     private static void emptyRowsAtTheEnd() {
         Walk.next("Finally, all rows at the end of the table whose action sets are empty are removed, up to the last "
-                + "row "
-                + "with an action set that is not empty.");
+                + "row with an action set that is not empty.");
         Check.dueTable("0");
         Check.dueTable("x=1.x=2");
         Check.dueTable("x=3.y=3.z=3", "333 124 #1");

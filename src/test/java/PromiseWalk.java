@@ -52,8 +52,8 @@ final class PromiseWalk {
         Check.dueText("slot 1", Check.shown(x, 1), "x=2*");
         Walk.next("- `value`: the byte, 0 to 127");
         Script.run(new PolicyCompiler(), "append(0) = 1; append(127) = 2; append(128) = -2; append(-1) = -2; "
-                + "append(64) = 3; "
-                + "append(305) = -2; append(-2147483648) = -2; append(2147483647) = -2; clearText() = 3");
+                + "append(64) = 3; append(305) = -2; append(-2147483648) = -2; append(2147483647) = -2; "
+                + "clearText() = 3");
         Walk.next("Returns the new length of the text;");
         PolicyCompiler y = new PolicyCompiler();
         for (int length = 1; length <= 150; length++) {
@@ -73,8 +73,7 @@ final class PromiseWalk {
         Walk.next("Empties the policy text.");
         PolicyCompiler x = new PolicyCompiler();
         Script.run(x, "append('0') = 1; append('1') = 2; clearText() = 2; parse(0) = -10; append('0') = 1; "
-                + "parse(0) = 1; "
-                + "accepted(0) = 0; undo() = 0; accepted(0) = -1");
+                + "parse(0) = 1; accepted(0) = 0; undo() = 0; accepted(0) = -1");
         Walk.next("Returns the length that it had.");
         Script.run(x, "clearText() = 1; clearText() = 0");
         Check.type(x, "(".repeat(150));
@@ -93,13 +92,11 @@ final class PromiseWalk {
         }
         Walk.next("The text stays as it is.");
         Script.run(x, "parse(0) = 13; clearText() = 10; append('1') = 1; append('+') = 2; parse(0) = -12; "
-                + "append('0') = 3; "
-                + "parse(0) = 3; parse(4) = -2; append('*') = 4; parse(0) = 4; clearText() = 4");
+                + "append('0') = 3; parse(0) = 3; parse(4) = -2; append('*') = 4; parse(0) = 4; clearText() = 4");
         Walk.next("Undoable.");
         PolicyCompiler y = Check.holding("x=1", "x=2");
         Script.run(y, "accepted(0) = 4294901760; parse(3) = 1; undo() = 2; accepted(3) = -1; undo() = 1; "
-                + "accepted(1) = -1; "
-                + "undo() = 0; accepted(0) = -1; undo() = -6");
+                + "accepted(1) = -1; undo() = 0; accepted(0) = -1; undo() = -6");
         Walk.next("- `slot`: 0 to 3");
         Check.type(y, "z=0");
         for (int s = 0; s < 4; s++) {
@@ -120,9 +117,8 @@ final class PromiseWalk {
             Check.due("parse(" + s + ")", x.parse(s), -2);
         }
         Script.run(x, "errorCount(-2) = 5; undo() = 0; clearText() = 3");
-        Walk.next("-10 minus the syntax error position if there is a syntax error (then nothing changes, and no "
-                + "error is "
-                + "counted);");
+        Walk.next("-10 minus the syntax error position if there is a syntax error (then nothing changes, and no error "
+                + "is counted);");
         PolicyCompiler y = Check.holding("x=1.y:2");
         Check.type(y, "!y:1");
         Script.run(y, "parse(0) = -11; size(0) = 3; errorCount(-2) = 0; errorCount(-3) = 0; errorCount(-4) = 0; "
@@ -211,8 +207,7 @@ final class PromiseWalk {
                 + "size(0) = 1");
         Walk.next("- `kind`: 0 for the repetition, 1 for the negation");
         Script.holding("modify(0, 0, 1) = 2; outputs(1, 0) = 1; modify(1, 0, 1) = 2; outputs(1, 0) = 0; "
-                + "outputs(1, 16) = 65536; "
-                + "modify(-1, 0, 1) = -2; modify(2, 0, 1) = -2; outputs(1, 0) = 0", "x=0");
+                + "outputs(1, 16) = 65536; modify(-1, 0, 1) = -2; modify(2, 0, 1) = -2; outputs(1, 0) = 0", "x=0");
         Walk.next("- `a`: slot of the operand");
         for (int s = 0; s < 4; s++) {
             PolicyCompiler y = Check.holding("x=0", "x=1", "x=2", "x=3");
@@ -247,13 +242,11 @@ final class PromiseWalk {
         Script.run(y, "errorCount(-2) = 15; errorCount(-3) = 0; undo() = 0; undo() = -6");
         Walk.next("NOT_A_PREDICATE if kind is 1 and the operand is not a predicate;");
         Script.holding("modify(1, 0, 0) = -3; modify(1, 1, 0) = -3; modify(1, 2, 0) = 5; modify(0, 1, 1) = 4; "
-                + "errorCount(-3) = 2",
-                "x:1", "x=1+y:1", "[1?0|1]");
+                + "errorCount(-3) = 2", "x:1", "x=1+y:1", "[1?0|1]");
         Walk.next("TOO_LARGE if the result would be too large.");
         Script.holding("modify(0, 0, 1) = 60; modify(1, 0, 2) = 60; modify(0, 1, 1) = -4; modify(0, 2, 1) = -4; "
                 + "modify(1, 2, 2) = -4; modify(1, 1, 3) = -3; errorCount(-4) = 3; errorCount(-3) = 1; size(1) = 60; "
-                + "size(2) = 60; "
-                + "size(3) = 1", "!".repeat(58) + "1");
+                + "size(2) = 60; size(3) = 1", "!".repeat(58) + "1");
     }
 
     private static void size() {
@@ -279,8 +272,7 @@ final class PromiseWalk {
         Walk.next("Tells whether the policy in a slot is a predicate.");
         Script.holding("isPredicate(0) = 1; combine(0, 0, 1, 2) = 4; isPredicate(2) = 0; combine(1, 0, 0, 2) = 5; "
                 + "isPredicate(2) = 1; modify(0, 0, 2) = 3; isPredicate(2) = 0; modify(1, 0, 2) = 3; "
-                + "isPredicate(2) = 1; "
-                + "undo() = 4; isPredicate(2) = 0", "!x=1", "x:1");
+                + "isPredicate(2) = 1; undo() = 4; isPredicate(2) = 0", "!x=1", "x:1");
         Walk.next("- `slot`: 0 to 3");
         PolicyCompiler x = Check.holding("x:1", "1", "y=1*", "[1?1|0]");
         Walk.next("Returns 1 if it is, 0 if it is not;");
@@ -296,8 +288,8 @@ final class PromiseWalk {
         Walk.promise(9, "printed", "int printed(int slot, int index)");
         Walk.next("Returns a byte of the printed form of the policy in a slot.");
         Script.holding("printed(0, 0) = 120; printed(0, 1) = 61; printed(0, 2) = 49; printed(1, 0) = 33; "
-                + "printed(1, 1) = 48; "
-                + "printed(2, 0) = 49; printed(2, 1) = 42; printed(3, 3) = 63", "((x=1))", "(!0)", "1*", "[!1?y:2|0]");
+                + "printed(1, 1) = 48; printed(2, 0) = 49; printed(2, 1) = 42; printed(3, 3) = 63", "((x=1))",
+                "(!0)", "1*", "[!1?y:2|0]");
         Walk.next("- `slot`: 0 to 3");
         PolicyCompiler x = Check.holding("x=0", "x=1.y:1", "x=2*", "!x=3");
         Script.run(x, "printed(0, 2) = 48; printed(1, 2) = 49; printed(2, 2) = 50; printed(3, 3) = 51");
@@ -331,8 +323,7 @@ final class PromiseWalk {
                 + "outputs(0, 0) = 0; outputs(1, 16) = 4295032832; outputs(2, 16) = 0; outputs(3, 0) = 2");
         Walk.next("- `packet`: 0 to 63");
         Script.run(x, "outputs(2, 63) = -9223372036854775808; outputs(2, 62) = 4611686018427387904; "
-                + "outputs(0, 31) = 134217728; "
-                + "outputs(3, 63) = -8070450532247928832");
+                + "outputs(0, 31) = 134217728; outputs(3, 63) = -8070450532247928832");
         Walk.next("Returns the set of packets (it can equal an error code);");
         // All packets, and all but packet 0, 1, 2, and so on.
         PolicyCompiler y = Check.holding(EVERYTHING);
@@ -349,8 +340,7 @@ final class PromiseWalk {
             Check.due("outputs(" + s + ", 0)", x.outputs(s, 0), -2);
         }
         Script.run(x, "outputs(0, -1) = -2; outputs(0, 64) = -2; outputs(3, -2147483648) = -2; "
-                + "outputs(3, 2147483647) = -2; "
-                + "errorCount(-2) = 9");
+                + "outputs(3, 2147483647) = -2; errorCount(-2) = 9");
     }
 
     private static void accepted() {
@@ -407,13 +397,11 @@ final class PromiseWalk {
     private static void rounds() {
         Walk.promise(13, "rounds", "int rounds(int slot)");
         Walk.next("Returns how many rounds the repetition of a policy needs: the least n such that each packet that "
-                + "can be "
-                + "reached from a packet in any number of steps can be reached from it in at most n steps.");
+                + "can be reached from a packet in any number of steps can be reached from it in at most n steps.");
         Script.holding("rounds(0) = 0; rounds(1) = 1; rounds(2) = 2; rounds(3) = 3", "x=1", "x:1+x:2+x:3",
                 "x=0.x:1+x=1.x:2+x=2.x:3+x=0.x:3", "x=0.x:1+x=1.x:2+x=2.x:3+x=3.x:0");
         Script.holding("rounds(0) = 1; rounds(1) = 2; rounds(2) = 3; rounds(3) = 0", "(x=0.x:1+x=1.x:2+x=2.x:3)*",
-                "x:1+y:1",
-                "x:1+y:1+z:1", "0*");
+                "x:1+y:1", "x:1+y:1+z:1", "0*");
         Walk.next("- `slot`: 0 to 3");
         PolicyCompiler x = Check.holding("0", "x:1", "x:1+y:2", "(x:1+y:2)*");
         Script.run(x, "rounds(0) = 0; rounds(1) = 1; rounds(2) = 2; rounds(3) = 1");
@@ -444,11 +432,10 @@ final class PromiseWalk {
         Walk.next("Returns 0 if both turn each packet into equal sets;");
         Script.run(x, "compare(0, 1) = 0; compare(1, 0) = 0; compare(3, 3) = 0");
         Script.holding("compare(0, 1) = 0; compare(2, 3) = 0; compare(1, 2) = 1", "0", "x=1.x=2", "1", "x=0+!x=0");
-        Walk.next("otherwise 1 if for each packet the set of a is a subset of that of b, 2 if for each packet the "
-                + "set of b "
-                + "is a subset of that of a, 3 if neither holds;");
-        Script.holding("compare(0, 1) = 1; compare(1, 0) = 2; compare(0, 2) = 1; compare(2, 3) = 1; compare(3, 0) = 2; "
-                + "compare(1, 2) = 3; compare(2, 1) = 3", "x=1", "x=1+x=3", "x=1*.!x=3", "1");
+        Walk.next("otherwise 1 if for each packet the set of a is a subset of that of b, 2 if for each packet the set "
+                + "of b is a subset of that of a, 3 if neither holds;");
+        Script.holding("compare(0, 1) = 1; compare(1, 0) = 2; compare(0, 2) = 1; compare(2, 3) = 1; "
+                + "compare(3, 0) = 2; compare(1, 2) = 3; compare(2, 1) = 3", "x=1", "x=1+x=3", "x=1*.!x=3", "1");
         // Less for one packet and more for another one.
         Script.holding("compare(0, 1) = 3; compare(1, 0) = 3; compare(2, 3) = 3", "x=0.y=0.z=0", "x=3.y=3.z=3",
                 "x=0.x:1+x=1", "x=1.x:0+x=1");
@@ -473,8 +460,7 @@ final class PromiseWalk {
         for (int p = 0; p < 64; p++) {
             String packet = "x=" + p / 16 + ".y=" + p / 4 % 4 + ".z=" + p % 4;
             Script.holding("witness(0, 1) = " + p + "; witness(1, 0) = " + p + "; witness(2, 3) = " + p, "1",
-                    "!(" + packet + ")",
-                    "0", packet);
+                    "!(" + packet + ")", "0", packet);
         }
         Walk.next("NONE if there is none;");
         Script.holding("witness(0, 1) = -1; witness(1, 0) = -1; witness(2, 2) = -1; witness(2, 3) = 0", "x=0*", "1",

@@ -20,8 +20,7 @@ final class StateWalk {
     private static void eachUndoableCall() {
         Walk.free("Undo.");
         Walk.next("Each successful call of a method whose description says \"undoable\" saves the state from before "
-                + "the "
-                + "call, even if the call changes nothing;");
+                + "the call, even if the call changes nothing;");
         PolicyCompiler x = new PolicyCompiler();
         Check.type(x, "x=1");
         Script.run(x, "parse(0) = 1; modify(1, 0, 1) = 2; combine(0, 0, 1, 2) = 4; parse(0) = 1; undo() = 3");
@@ -44,8 +43,9 @@ final class StateWalk {
                 + "hits(0, 0) = 64; errorCount(-6) = 0; undo() = -6; errorCount(-6) = 1");
         x.digest();
         // Nor do refused calls, and calls that end with a syntax error.
-        Script.run(x, "parse(4) = -2; combine(2, 0, 0, 0) = -2; modify(0, 0, -1) = -2; append(41) = 2; parse(0) = -11; "
-                + "undo() = -6; parse(0) = -11; modify(0, 0, 0) = 2; modify(1, 0, 0) = -3; undo() = 0; undo() = -6");
+        Script.run(x, "parse(4) = -2; combine(2, 0, 0, 0) = -2; modify(0, 0, -1) = -2; append(41) = 2; "
+                + "parse(0) = -11; undo() = -6; parse(0) = -11; modify(0, 0, 0) = 2; modify(1, 0, 0) = -3; "
+                + "undo() = 0; undo() = -6");
     }
 
     private static void fiveStates() {
@@ -84,13 +84,12 @@ final class StateWalk {
         PolicyCompiler x = Check.holding("1+".repeat(29) + "1", "x:1");
         Check.type(x, "p+p");
         Script.run(x, "parse(0) = -4; combine(0, 0, 0, 1) = -4; modify(1, 1, 1) = -3; size(4) = -2; "
-                + "errorCount(-1) = -2; "
-                + "parse(-1) = -2; append(-1) = -2; errorCount(-2) = 4; errorCount(-3) = 1; errorCount(-4) = 2; "
-                + "errorCount(-5) = 0; errorCount(-6) = 0");
+                + "errorCount(-1) = -2; parse(-1) = -2; append(-1) = -2; errorCount(-2) = 4; errorCount(-3) = 1; "
+                + "errorCount(-4) = 2; errorCount(-5) = 0; errorCount(-6) = 0");
         Check.dueText("slot 0", Check.shown(x, 0), "1+".repeat(29) + "1");
         Check.dueText("slot 1", Check.shown(x, 1), "x:1");
-        Script.run(x, "size(2) = 1; size(3) = 1; undo() = 1; undo() = 0; undo() = -6; undo() = -6; errorCount(-6) = 2; "
-                + "errorCount(-2) = 4; parse(2) = 3; undo() = 0");
+        Script.run(x, "size(2) = 1; size(3) = 1; undo() = 1; undo() = 0; undo() = -6; undo() = -6; "
+                + "errorCount(-6) = 2; errorCount(-2) = 4; parse(2) = 3; undo() = 0");
         Check.type(x, "1".repeat(150));
         Script.run(x, "append(49) = -5; append(49) = -5; errorCount(-5) = 2; parse(0) = -11; undo() = -6; "
                 + "clearText() = 150");

@@ -33,9 +33,9 @@ final class TablePromiseWalk {
         Walk.next("- `slot`: 0 to 3");
         Script.run(x, "diagramSize(0) = 1; diagramSize(1) = 3; diagramSize(2) = 5; diagramSize(3) = 85");
         Walk.next("Returns the number of nodes;");
-        Script.holding("diagramSize(0) = 4; diagramSize(1) = 5; diagramSize(2) = 6; parse(0) = 1; "
-                + "diagramSize(0) = 1; undo() = 4; "
-                + "diagramSize(0) = 4", "x=0.y=1+x=3.y=1", "x=0.y=1+x=3.y=2", "x=0.y=1+x=1.y=2+x=3.z=3+0", "0");
+        Script.holding("diagramSize(0) = 4; diagramSize(1) = 5; diagramSize(2) = 6; parse(0) = 1; diagramSize(0) = 1; "
+                + "undo() = 4; diagramSize(0) = 4", "x=0.y=1+x=3.y=1", "x=0.y=1+x=3.y=2",
+                "x=0.y=1+x=1.y=2+x=3.z=3+0", "0");
         Walk.next("OUT_OF_RANGE if slot is out of range.");
         for (int s : NO_SLOTS) {
             Check.due("diagramSize(" + s + ")", x.diagramSize(s), -2);
@@ -67,8 +67,7 @@ final class TablePromiseWalk {
         Script.run(x, "diagramDepth(0) = 0; diagramDepth(1) = 1; diagramDepth(2) = 2; diagramDepth(3) = 3");
         Walk.next("Returns the depth, 0 to 3;");
         Script.holding("diagramDepth(0) = 0; diagramDepth(1) = 3; diagramDepth(2) = 2; diagramDepth(3) = 1", "0",
-                EVERYTHING,
-                "[x=0?y=1|z=1]", "z:3");
+                EVERYTHING, "[x=0?y=1|z=1]", "z:3");
         Walk.next("OUT_OF_RANGE if slot is out of range.");
         for (int s : NO_SLOTS) {
             Check.due("diagramDepth(" + s + ")", x.diagramDepth(s), -2);
@@ -149,19 +148,16 @@ final class TablePromiseWalk {
         Script.run(x, "action(0, 0, 0) = 124; action(1, 1, 0) = 120; action(2, 1, 0) = 124; action(3, 0, 63) = 124");
         Walk.next("- `row`: index of the row, from 0");
         Script.run(x, "action(0, 1, 0) = 114; action(2, 0, -1) = 0; action(3, 63, 0) = 31");
-        Walk.next("- `index`: index of the action in ascending order of the numbers of the actions, from 0, or -1 "
-                + "for the "
-                + "number of actions");
+        Walk.next("- `index`: index of the action in ascending order of the numbers of the actions, from 0, or -1 for "
+                + "the number of actions");
         // Row 3 is that of the packets with neither x = 1 nor z = 0.
         Script.run(x, "rows(1) = 4; action(1, 3, -1) = 3; action(1, 3, 0) = 49; action(1, 3, 1) = 120; "
                 + "action(1, 3, 2) = 124");
         Walk.next("Returns the action, 0 to 124, or the number of actions if index is -1;");
         Script.holding("action(0, 0, 0) = 0; action(0, 0, -1) = 1; action(1, 0, 0) = 124; action(1, 0, -1) = 1; "
                 + "action(2, 0, 0) = 93; action(3, 0, 0) = 49; action(3, 0, 1) = 62; action(3, 0, 2) = 63; "
-                + "action(3, 0, 3) = 64; "
-                + "action(3, 0, 4) = 124; action(3, 0, 5) = -1", "x=3.y=3.z=3.x:0.y:0.z:0", "1",
-                "x=0.y=0.z=0.x:3.y:3.z:3",
-                "x=3.y=3.z=0.(1+x:1+x:2.y:2.(z:2+z:3+1))");
+                + "action(3, 0, 3) = 64; action(3, 0, 4) = 124; action(3, 0, 5) = -1", "x=3.y=3.z=3.x:0.y:0.z:0", "1",
+                "x=0.y=0.z=0.x:3.y:3.z:3", "x=3.y=3.z=0.(1+x:1+x:2.y:2.(z:2+z:3+1))");
         Check.due("number of actions", x.action(3, 17, -1), 64);
         Walk.next("NONE if there are not so many actions;");
         Script.run(x, "action(0, 0, 1) = -1; action(2, 0, 0) = -1; action(1, 3, 3) = -1; action(3, 0, 64) = -1; "
@@ -172,8 +168,7 @@ final class TablePromiseWalk {
             Check.due("action(1, " + s + ", 0)", x.action(1, s, 0), -2);
         }
         Script.run(x, "action(0, 0, -2) = -2; action(0, 0, -2147483648) = -2; action(0, 2, -1) = -2; "
-                + "action(3, 64, 0) = -2; "
-                + "errorCount(-2) = 14");
+                + "action(3, 64, 0) = -2; errorCount(-2) = 14");
     }
 
     private static void hit() {
@@ -183,8 +178,8 @@ final class TablePromiseWalk {
         Walk.next("- `slot`: 0 to 3");
         Script.run(x, "hit(0, 20) = 1; hit(1, 20) = 1; hit(2, 20) = 3; hit(3, 20) = 3");
         Walk.next("- `packet`: 0 to 63");
-        Script.run(x, "hit(3, 0) = 63; hit(3, 21) = 0; hit(3, 63) = 42; hit(2, 0) = 1; hit(2, 7) = 0; "
-                + "hit(2, 62) = 2; hit(2, 63) = 3");
+        Script.run(x, "hit(3, 0) = 63; hit(3, 21) = 0; hit(3, 63) = 42; hit(2, 0) = 1; hit(2, 7) = 0; hit(2, 62) = 2; "
+                + "hit(2, 63) = 3");
         Walk.next("Returns the index of the row;");
         Script.run(x, "hit(0, 24) = 0; hit(0, 27) = 0; hit(0, 16) = 1; hit(0, 28) = 1; hit(1, 32) = 0; "
                 + "hit(1, 47) = 0; hit(1, 48) = 1");
@@ -226,15 +221,13 @@ final class TablePromiseWalk {
         Walk.next("Restores the most recently saved state and removes it from the saved states.");
         PolicyCompiler x = Check.holding("x=0", "x=1.y:2");
         Script.run(x, "combine(0, 0, 1, 2) = 5; modify(0, 1, 0) = 4; modify(1, 2, 2) = -3; undo() = 3; size(0) = 1; "
-                + "size(2) = 5; "
-                + "accepted(0) = 65535; isPredicate(0) = 1; rows(0) = 1; undo() = 2; size(2) = 1; accepted(2) = -1; "
-                + "modify(1, 0, 3) = 2; undo() = 2; size(3) = 1; undo() = 1; size(1) = 1; accepted(1) = -1; "
-                + "diagramSize(1) = 1");
+                + "size(2) = 5; accepted(0) = 65535; isPredicate(0) = 1; rows(0) = 1; undo() = 2; size(2) = 1; "
+                + "accepted(2) = -1; modify(1, 0, 3) = 2; undo() = 2; size(3) = 1; undo() = 1; size(1) = 1; "
+                + "accepted(1) = -1; diagramSize(1) = 1");
         Walk.next("Returns the number of saved states that remain;");
         Script.run(x, "undo() = 0; accepted(0) = -1; modify(0, 0, 0) = 2; modify(0, 0, 1) = 3; modify(0, 0, 2) = 3; "
-                + "modify(0, 0, 3) = 3; modify(0, 0, 0) = 3; modify(0, 0, 0) = 4; undo() = 4; undo() = 3; "
-                + "undo() = 2; undo() = 1; "
-                + "undo() = 0; size(0) = 2");
+                + "modify(0, 0, 3) = 3; modify(0, 0, 0) = 3; modify(0, 0, 0) = 4; undo() = 4; undo() = 3; undo() = 2; "
+                + "undo() = 1; undo() = 0; size(0) = 2");
         Walk.next("NOTHING_SAVED if there is none.");
         Script.run(x, "undo() = -6; undo() = -6; errorCount(-6) = 2; size(0) = 2");
         Script.run(new PolicyCompiler(), "undo() = -6; errorCount(-6) = 1");
@@ -246,22 +239,19 @@ final class TablePromiseWalk {
         PolicyCompiler x = Check.holding("!".repeat(59) + "1", "x:1");
         Check.type(x, "1".repeat(150));
         Script.run(x, "size(4) = -2; append(200) = -2; modify(1, 1, 1) = -3; combine(0, 0, 1, 2) = -4; "
-                + "modify(1, 0, 0) = -4; "
-                + "modify(0, 0, 0) = -4; append(49) = -5; append(49) = -5; append(49) = -5; append(49) = -5; "
-                + "undo() = 1; undo() = 0; "
-                + "undo() = -6; undo() = -6; undo() = -6; undo() = -6; undo() = -6");
+                + "modify(1, 0, 0) = -4; modify(0, 0, 0) = -4; append(49) = -5; append(49) = -5; append(49) = -5; "
+                + "append(49) = -5; undo() = 1; undo() = 0; undo() = -6; undo() = -6; undo() = -6; undo() = -6; "
+                + "undo() = -6");
         Walk.next("- `code`: an error code, -6 to -2");
         Script.run(x, "errorCount(-6) = 5; errorCount(-5) = 4; errorCount(-4) = 3; errorCount(-3) = 1; "
                 + "errorCount(-2) = 2");
         Walk.next("Returns the counter of the code;");
         Script.run(new PolicyCompiler(), "errorCount(-6) = 0; errorCount(-5) = 0; errorCount(-4) = 0; "
-                + "errorCount(-3) = 0; "
-                + "errorCount(-2) = 0; hit(0, 64) = -2; errorCount(-2) = 1; errorCount(-2) = 1");
+                + "errorCount(-3) = 0; errorCount(-2) = 0; hit(0, 64) = -2; errorCount(-2) = 1; errorCount(-2) = 1");
         Walk.next("OUT_OF_RANGE if code is out of range (this increments the counter of OUT_OF_RANGE).");
         Script.run(x, "errorCount(-7) = -2; errorCount(-2) = 3; errorCount(-1) = -2; errorCount(-2) = 4; "
-                + "errorCount(0) = -2; "
-                + "errorCount(2) = -2; errorCount(-2147483648) = -2; errorCount(2147483647) = -2; errorCount(-2) = 8; "
-                + "errorCount(-3) = 1; errorCount(-6) = 5");
+                + "errorCount(0) = -2; errorCount(2) = -2; errorCount(-2147483648) = -2; errorCount(2147483647) = -2; "
+                + "errorCount(-2) = 8; errorCount(-3) = 1; errorCount(-6) = 5");
     }
 
     private static long hash(long start, long... values) {
@@ -327,15 +317,11 @@ final class TablePromiseWalk {
         x.clearText();
         Check.due("digest() of the same state", x.digest(), fresh);
         Walk.next("Start with h = 2729 and, for each of the following values v, set h = 31 * h + v: the counters of "
-                + "the "
-                + "codes -2, -3, -4, -5, -6; the length of the text; "
-                + "for each slot its size, the bytes of its printed form, the sets "
-                + "outputs() for the packets 0, 27 and 63, accepted(), spread(), rounds(), diagramSize(), leaves(), "
-                + "diagramDepth(), "
-                + "rows() and, for each row, its match for the fields 0, 1 and 2 and its actions in ascending order; "
-                + "for each two "
-                + "different slots a less than b (by a, then by b) compare() and witness(); "
-                + "the number of saved states.");
+                + "the codes -2, -3, -4, -5, -6; the length of the text; for each slot its size, the bytes of its "
+                + "printed form, the sets outputs() for the packets 0, 27 and 63, accepted(), spread(), rounds(), "
+                + "diagramSize(), leaves(), diagramDepth(), rows() and, for each row, its match for the fields 0, 1 "
+                + "and 2 and its actions in ascending order; for each two different slots a less than b (by a, then "
+                + "by b) compare() and witness(); the number of saved states.");
         dueDigest(new PolicyCompiler(), 0, 0);
         dueDigest(Check.holding("x=1.y:2", "!x=2", "x:1+1"), 5, 3);
         dueDigest(Check.holding("0", "1*", "[x=0?y:1|z:2]", "(x=0.x:1+x=1.x:2)*"), 18, 4);
@@ -371,11 +357,9 @@ final class TablePromiseWalk {
     private static void notPromised() {
         Walk.free("## Not promised");
         Walk.free("How the state is held inside the object is free, as are the speed of each call, the text of "
-                + "toString and "
-                + "the behaviour of equals and hashCode.");
+                + "toString and the behaviour of equals and hashCode.");
         Walk.free("Use of one object from several threads at once is not promised to be safe.");
         Walk.free("Nothing is promised beyond the answers and state changes described above, and nothing about an "
-                + "object "
-                + "after its 512th call.");
+                + "object after its 512th call.");
     }
 }

@@ -150,8 +150,7 @@ final class TextWalk {
 
     private static void letters() {
         Walk.next("or one of the letters p, q, r and s, which stands for the policy that the slot 0, 1, 2 or 3 holds "
-                + "when "
-                + "the text is parsed.");
+                + "when the text is parsed.");
         PolicyCompiler x = Check.holding("x=0", "x=1+y=1", "x:2", "x=3");
         Check.due("parse of !p+q*.r+(s)", Check.parse(x, 0, "!p+q*.r+(s)"), 11);
         Check.dueText("slot 0", Check.shown(x, 0), "!x=0+(x=1+y=1)*.x:2+x=3");
@@ -202,9 +201,8 @@ final class TextWalk {
     }
 
     private static void predicateErrors() {
-        Walk.next("If the operand of a negation or the c of a choice is not a predicate, the syntax error position "
-                + "is the "
-                + "index of the first byte of this operand or c,");
+        Walk.next("If the operand of a negation or the c of a choice is not a predicate, the syntax error position is "
+                + "the index of the first byte of this operand or c,");
         dueParse("!x:1", -11);
         dueParse("!(x:1)", -11);
         dueParse("!1*", -11);
