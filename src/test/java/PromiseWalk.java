@@ -367,6 +367,9 @@ final class PromiseWalk {
         Walk.next("- `slot`: 0 to 3");
         Script.run(x, "spread(0) = 1; spread(1) = 0; spread(2) = 3; spread(3) = 64");
         Walk.next("Returns the greatest number, 0 to 64;");
+        // Only the first packet, or only the last one, has so many.
+        Script.holding("spread(0) = 64; spread(1) = 64; spread(2) = 2", "x=0.y=0.z=0." + EVERYTHING,
+                "x=3.y=3.z=3." + EVERYTHING, "x=0.y=0.z=0.(x:1+1)");
         for (int n = 1; n <= 64; n++) {
             PolicyCompiler y = Check.holding(EVERYTHING);
             // The first n packets, as those below n.
@@ -406,6 +409,9 @@ final class PromiseWalk {
         PolicyCompiler x = Check.holding("0", "x:1", "x:1+y:2", "(x:1+y:2)*");
         Script.run(x, "rounds(0) = 0; rounds(1) = 1; rounds(2) = 2; rounds(3) = 1");
         Walk.next("Returns the number of rounds, 0 to 63;");
+        // Only from the first packet, or only from the last one, it takes so many.
+        Script.holding("rounds(0) = 1; rounds(1) = 1; rounds(2) = 2", "x=0.y=0.z=0.z:1", "x=3.y=3.z=3.x:0",
+                "x=0.y=0.z=0.z:1+x=0.y=0.z=1.z:2");
         PolicyCompiler y = Check.holding("[x=0?x:1|[x=1?x:2|[x=2?x:3|x:0]]]", "[y=0?y:1|[y=1?y:2|y:3]]",
                 "[z=0?z:1|[z=1?z:2|z:3]]");
         // From each packet to the next one, and from the last to the first: 63 steps to the one before.

@@ -325,6 +325,7 @@ final class TablePromiseWalk {
         dueDigest(new PolicyCompiler(), 0, 0);
         dueDigest(Check.holding("x=1.y:2", "!x=2", "x:1+1"), 5, 3);
         dueDigest(Check.holding("0", "1*", "[x=0?y:1|z:2]", "(x=0.x:1+x=1.x:2)*"), 18, 4);
+        dueDigest(Check.holding("x=3.y=3.z=3.x:0.y:0.z:0", "y=0.z=0.x:3.y:3.z:3", "x=0.y=0.z=0"), 11, 3);
         PolicyCompiler y = Check.holding("1" + "*".repeat(59), "x=3.y=0.z=2", "y=3.(x:0+x:1)", "x=0.y=0.z=0.x:1");
         y.undo();
         y.undo();

@@ -206,6 +206,7 @@ final class TextWalk {
         dueParse("!x:1", -11);
         dueParse("!(x:1)", -11);
         dueParse("!1*", -11);
+        dueParse("1+!x=1*", -13);
         dueParse("![1?x:1|1]", -11);
         dueParse("!!x:1", -12);
         dueParse("1.!(1+!x:1)", -17);
